@@ -737,7 +737,8 @@ public final class RootChanges {
     private static final class PrimeView {
         private final long[] whole = new long[PLACES];
         private final long[] step = new long[PLACES];
-        private final long[] base = new long[PLACES];
+        private final long[] firstStep = new long[PLACES];
+        private final long[] before = new long[PLACES];
         private final long[] left = new long[PLACES];
         private final long[] right = new long[PLACES];
         private final long[] product = new long[2 * PLACES - 1];
@@ -751,10 +752,12 @@ public final class RootChanges {
                 return 0;
             }
             int digits = 0;
-            clear(step);
-            step[1] = 1;
             for (int d = 1; 2 * d <= degree; d++) {
-                raiseStep(degree);
+                if (d == 1) {
+                    makeFirstStep(degree);
+                } else {
+                    makeNextStep(degree);
+                }
                 int shared = shareWithStep();
                 for (int seen = d; seen <= shared; seen += d) {
                     digits = digits * 10 + d;
@@ -763,6 +766,7 @@ public final class RootChanges {
                     partWhole(degree, shared);
                     degree -= shared;
                     reduce(step, whole, degree);
+                    reduce(firstStep, whole, degree);
                 }
             }
             return degree > 0 ? digits * 10 + degree : digits;
@@ -790,15 +794,36 @@ public final class RootChanges {
             return shareLeftRight() == 0;
         }
 
-        /** Step becomes its p-th power by the whole one, by squaring along the digits of p. */
-        private void raiseStep(int degree) {
-            copy(step, base);
+        /** The p-th power of x by the whole one, by squaring along the digits of p. */
+        private void makeFirstStep(int degree) {
+            clear(step);
+            step[1] = 1;
             for (int bit = Integer.highestOneBit((int) p) >> 1; bit > 0; bit >>= 1) {
                 multiplyStep(step, degree);
                 if ((p & bit) != 0) {
-                    multiplyStep(base, degree);
+                    multiplyStepByX(degree);
                 }
             }
+            copy(step, firstStep);
+        }
+
+        /** The p-th power of the step before: by p that is the first step put into it for x. */
+        private void makeNextStep(int degree) {
+            copy(step, before);
+            clear(step);
+            step[0] = before[degree - 1];
+            for (int j = degree - 2; j >= 0; j--) {
+                multiplyStep(firstStep, degree);
+                step[0] = byPrime(step[0] + before[j]);
+            }
+        }
+
+        private void multiplyStepByX(int degree) {
+            long top = step[degree - 1];
+            for (int j = degree - 1; j >= 1; j--) {
+                step[j] = byPrime(step[j - 1] - top * whole[j]);
+            }
+            step[0] = byPrime(-top * whole[0]);
         }
 
         private void multiplyStep(long[] by, int degree) {
@@ -998,7 +1023,7 @@ public final class RootChanges {
         }
 
         /** One of both cubics, the one whose last number is not the greater one. */
-        private boolean takeCubic() {
+        private void takeCubic() {
             int manyLasts = listDivisors(rest[restDegree], lasts, false);
             int manyFirsts = listDivisors(rest[0], firsts, true);
             int manyAtOnes = listDivisors(valueAt(rest, 1), atOnes, true);
@@ -1008,13 +1033,12 @@ public final class RootChanges {
                     for (int o = 0; o < manyAtOnes; o++) {
                         for (int m = 0; m < manyAtMinusOnes; m++) {
                             if (takeCubicWith(lasts[l], atOnes[o], atMinusOnes[m], manyFirsts)) {
-                                return true;
+                                return;
                             }
                         }
                     }
                 }
             }
-            return false;
         }
 
         private boolean takeCubicWith(long last, long atOne, long atMinusOne, int manyFirsts) {
