@@ -168,9 +168,7 @@ class O:
     def sums(s,i,k,to):
         if not s.ok(i,k,to): return s.ref(-1)
         a,b=s.r[i],s.r[k]
-        for c in (a,b):
-            if deg(c)<1 or c[deg(c)]!=1: return s.ref(-2)
-        if not plain(a) and not plain(b): return s.ref(-2)
+        if not plain(a) or not plain(b): return s.ref(-2)
         if deg(a)*deg(b)>6: return s.ref(-3)
         f=poly(a).as_expr().subs(x,y); g=poly(b).as_expr().subs(x,x-y)
         R=Poly(resultant(f,g.expand(),y),x)

@@ -156,9 +156,8 @@ public final class RootChanges {
         }
         int degreeI = degreeOf(rows[i]);
         int degreeK = degreeOf(rows[k]);
-        // The document lets one of both be beyond SMALL, so one PLAIN one is enough.
-        if (!endsWithOne(rows[i]) || !endsWithOne(rows[k])
-                || !isSmall(rows[i]) && !isSmall(rows[k])) {
+        // Both are to be PLAIN: what is made may be one that is not SMALL, not what it is made of.
+        if (!isPlain(rows[i]) || !isPlain(rows[k])) {
             return refuse(NOT_WANTED);
         }
         if (degreeI * degreeK > TOP_DEGREE) {
@@ -391,13 +390,13 @@ public final class RootChanges {
         return degreeOf(c) >= 1 && hasSmallNumbers(c);
     }
 
-    private static boolean endsWithOne(long[] c) {
+    private static boolean isPlain(long[] c) {
         int degree = degreeOf(c);
-        return degree >= 1 && c[degree] == 1;
+        return isSmall(c) && degree >= 1 && c[degree] == 1;
     }
 
     private static boolean hasGroup(long[] c) {
-        return isSmall(c) && endsWithOne(c) && degreeOf(c) <= TOP_GROUP_DEGREE;
+        return isPlain(c) && degreeOf(c) <= TOP_GROUP_DEGREE;
     }
 
     private static int degreeOf(long[] c) {

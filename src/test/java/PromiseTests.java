@@ -332,21 +332,31 @@ public final class PromiseTests {
         due("row to", x.sums(4, 4, 10), -1);
     }
 
-    /** One of both may be beyond SMALL, and so may be what is made. */
+    /** What is made may be one that is not SMALL; both of which it is made are to be PLAIN. */
     private static void sumsBeyondSmall() {
         promise = 12;
         RootChanges x = of(0, 0, 0, 0, 0, 0, 1);
-        x.shift(0, 20, 0);
-        tell(x, 1, 10, 1);
-        due("the second PLAIN", x.sums(0, 1, 2), 0);
-        dueRow("(x + 30)^6", x, 2, 729000000, 145800000, 12150000, 540000, 13500, 180, 1);
-        due("the first PLAIN", x.sums(1, 0, 3), 0);
-        due("as well", x.number(3, 0), 729000000);
-        due("a number beyond", x.sums(1, 2, 3), -3);
+        x.shift(0, 20, 1);
+        tell(x, 2, 30, 1);
+        due("made one is not SMALL", x.sums(0, 2, 3), 0);
+        dueRow("(x + 30)^6", x, 3, 729000000, 145800000, 12150000, 540000, 13500, 180, 1);
+        due("the first not SMALL", x.sums(1, 2, 3), -2);
+        due("status", x.status(), -2);
+        due("the second not SMALL", x.sums(2, 1, 3), -2);
+        due("-2 before DEGREES' product above 6", x.sums(1, 0, 3), -2);
+        due("the other way round", x.sums(0, 1, 3), -2);
         due("left as it was", x.number(3, 0), 729000000);
         tell(x, 4, 100, 1);
-        x.shift(4, 1, 4);
-        due("none of both PLAIN", x.sums(4, 4, 5), -2);
+        due("a number beyond", x.sums(0, 4, 3), -3);
+        due("left as it was", x.number(3, 0), 729000000);
+        tell(x, 5, -100, 1);
+        due("100 is SMALL yet", x.sums(4, 5, 6), 0);
+        dueRow("x", x, 6, 0, 1);
+        tell(x, 6, 1);
+        x.plus(4, 6, 6);
+        due("101 is not", x.sums(6, 5, 7), -2);
+        due("none of both PLAIN", x.sums(6, 6, 7), -2);
+        due("not made", x.degree(7), -1);
         tell(x, 6, -100, -100, 1);
         tell(x, 7, -100, -100, -100, 1);
         due("far, but not too far", x.sums(6, 7, 8), 0);
