@@ -741,7 +741,7 @@ public final class RootChanges {
         private final long[] left = new long[PLACES];
         private final long[] right = new long[PLACES];
         private final long[] product = new long[2 * PLACES - 1];
-        private long p;
+        private long p = 2;
 
         /** TYPE of numbers with a degree of 1 or more; 0 where the prime is not GOOD. */
         int typeBy(long[] numbers, int prime) {
@@ -925,7 +925,7 @@ public final class RootChanges {
         private final long[] firsts = new long[MOST_DIVISORS];
         private final long[] atOnes = new long[MOST_DIVISORS];
         private final long[] atMinusOnes = new long[MOST_DIVISORS];
-        private Parts parts;
+        private Parts parts = new Parts();
         private int restDegree;
 
         Splitter(PrimeView primeView) {

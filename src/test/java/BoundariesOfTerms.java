@@ -141,6 +141,7 @@ public final class BoundariesOfTerms {
         goodNoFactorTwice();
         typeDigits();
         groupDegree();
+        groupOfShifted();
         groupFields();
         groupRuler();
         groupEven();
@@ -386,8 +387,11 @@ public final class BoundariesOfTerms {
         tell(x, 0, 0, 0, 0, 0, 0, 0, 1);
         tell(x, 1, -32, 1);
         s.due("2 to the power of 30", x.sums(0, 1, 4), -3);
-        tell(x, 1, -100, 1);
-        s.due("wraps around", x.sums(0, 1, 4), -3);
+        for (int a : new int[] {40, -40, 44, -44, 100, -100}) {
+            tell(x, 1, a, 1);
+            s.due("wraps around by " + a, x.sums(0, 1, 4), -3);
+            s.due("wraps around by " + a + ", other way", x.sums(1, 0, 4), -3);
+        }
         s.due("not made", x.degree(4), -1);
     }
 
@@ -920,15 +924,17 @@ public final class BoundariesOfTerms {
         {{2, 2, 1, 0, 3}, {0, 0, -2, 0, 1}, {-2, 4, -1, -2, 1}, {2, -2, -1, 1}},
         {{2, 2, 1, 0, 4}, {0, -2, -2, 1, 1}, {-4, 0, -3, 0, 1}},
         {{2, 2, 1, 1, 4}, {16, 0, -10, 0, 1}, {2, -2, 3, -2, 1}},
-        {{4, 5, 1, 0, 4}, {6, 0, -5, 0, 1}, {-2, 0, -1, 0, 1}, {1, 1, 2, 1, 1}},
+        {{4, 5, 1, 0, 4}, {6, 0, -5, 0, 1}, {-2, 0, -1, 0, 1}, {1, 1, 2, 1, 1}, {20, 0, -12, 0, 1}, {12, 0, 8, 0, 1}},
         {{3, 2, 0, 1, 3}, {-1, -3, 0, 1}, {1, -3, 0, 1}, {-7, -7, 0, 1}},
         {{3, 2, 0, 1, 4}, {0, -1, -3, 0, 1}, {1, -2, -3, 1, 1}},
         {{6, 6, 0, 0, 3}, {-2, 0, 0, 1}, {-1, -1, 0, 1}},
         {{6, 6, 0, 0, 4}, {0, -2, 0, 0, 1}, {2, -2, 0, -1, 1}},
-        {{4, 5, 1, 1, 4}, {1, 0, 0, 0, 1}, {1, 0, -10, 0, 1}, {1, 0, -1, 0, 1}},
-        {{4, 3, 1, 0, 4}, {2, 0, -4, 0, 1}, {1, 1, 1, 1, 1}, {5, -5, 0, 0, 1}},
-        {{8, 10, 1, 0, 4}, {-2, 0, 0, 0, 1}, {1, 1, 0, -1, 1}, {3, 0, 0, 0, 1}},
-        {{12, 10, 0, 1, 4}, {12, 8, 0, 0, 1}, {2, 0, 2, -2, 1}},
+        {{4, 5, 1, 1, 4}, {1, 0, 0, 0, 1}, {1, 0, -10, 0, 1}, {1, 0, -1, 0, 1}, {4, 0, -100, 0, 1}, {64, -96, -8, 12, 1}},
+        {{4, 3, 1, 0, 4}, {2, 0, -4, 0, 1}, {1, 1, 1, 1, 1}, {5, -5, 0, 0, 1}, {1, -4, -11, -4, 1}, {1, 12, -2, -4, 1},
+            {7, 4, -10, -4, 1}, {9, -9, 5, -3, 1}, {50, 0, -100, 0, 1}, {85, 0, -85, 0, 1}},
+        {{8, 10, 1, 0, 4}, {-2, 0, 0, 0, 1}, {1, 1, 0, -1, 1}, {3, 0, 0, 0, 1}, {9, -12, -12, -4, 1}, {-25, 12, -2, -4, 1},
+            {-2, -8, -12, -4, 1}},
+        {{12, 10, 0, 1, 4}, {12, 8, 0, 0, 1}, {2, 0, 2, -2, 1}, {28, -35, 56, -1, 1}, {-4, -80, -50, 12, 1}},
         {{24, 30, 0, 0, 4}, {1, 1, 0, 0, 1}, {7, 7, -14, -7, 1}, {100, 99, 0, 0, 1}}};
 
     private static void dueGroups(int what) {
@@ -936,6 +942,21 @@ public final class BoundariesOfTerms {
             for (int k = 1; k < g.length; k++) {
                 RootChanges x = of(g[k]);
                 s.due("of " + java.util.Arrays.toString(g[k]), x.group(0, what), g[0][what]);
+            }
+        }
+    }
+
+    private static void groupOfShifted() {
+        s.sentence("IV", "of the field that all its roots make over the fractions the group (x + a in the place of x: the same)");
+        for (int[][] g : GROUPS) {
+            for (int k = 1; k < g.length; k++) {
+                RootChanges x = of(g[k]);
+                for (int a = -2; a <= 2; a++) {
+                    x.shift(0, a, 1);
+                    for (int what = 0; what <= 4 && x.factors(1) > 0; what++) {
+                        s.due("of " + java.util.Arrays.toString(g[k]) + " by " + a, x.group(1, what), g[0][what]);
+                    }
+                }
             }
         }
     }
